@@ -40,6 +40,9 @@ final class AsksTest {
         Check.asksFault("scene \n", 1, 7);
         Check.asksFault("scen 1", 1, 0);
         Check.asksFault("scenes 1", 1, 0);
+        Check.asksFault("scenez 1", 1, 0);
+        Check.asksFault("scenea 1", 1, 0);
+        Check.asksFault("xcene 1", 1, 0);
         Check.asksFault(" base 1;", 1, 1);
         Check.asksFault("7", 1, 0);
         Check.asksFault(";", 1, 0);

@@ -82,6 +82,10 @@ final class FactsTest {
         Check.due("lacks(1)", x.lacks(1), 3);
         Check.due("lacks(2)", x.lacks(2), -1);
         Check.due("lacks(-1)", x.lacks(-1), -1);
+        x.tell(0, 4);
+        Check.due("the first one lacks", x.retake(4, 0), 1);
+        Check.due("lacks(0)", x.lacks(0), 0);
+        Check.due("two lack", x.retake(2, 0), 2);
         x.away(1, false);
         Check.due("lacks(0) as it was", x.lacks(0), 1);
         Check.due("no such scene", x.retake(20, 0), -1);

@@ -8,6 +8,7 @@ final class StepTest {
         none();
         sixtyDays();
         agreementOfTheDay();
+        seedsAtTheEdge();
         Random random = new Random(6);
         for (int n = 0; n < 60; n++) {
             oneRun(random);
@@ -72,6 +73,24 @@ final class StepTest {
         Check.agree(x, "base 5;");
         Check.due("the latest then", x.record(0, 0, 5), 1);
         Check.due("pay by it", x.record(0, 0, 6), 4);
+    }
+
+    /** Seeds of which NEXT ends in sixteen bits of 1 or of 0, so that one more or less is seen. */
+    private static void seedsAtTheEdge() {
+        int found = 0;
+        for (int seed = 0; seed < 1 << 16; seed++) {
+            int next = seed * 1103515245 + 12345;
+            if ((next & 0xffff) == 0xffff || (next & 0xffff) == 0) {
+                found++;
+                ExtrasOffice x = new ExtrasOffice();
+                x.person(20, 170, 0, 0, 5);
+                Check.asks(x, "scene 7 at 60 for 1 want 1: anyone;");
+                x.lay();
+                x.step(1, seed);
+                Check.due("coming by " + seed, x.record(0, 0, 1), 60 + (next >>> 16) % 20);
+            }
+        }
+        Check.due("such seeds", found, 2);
     }
 
     private static void oneRun(Random random) {
