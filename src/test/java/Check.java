@@ -16,6 +16,14 @@ final class Check {
         }
     }
 
+    static int asked() {
+        return asked;
+    }
+
+    static int wrong() {
+        return wrong;
+    }
+
     static void due(String what, boolean got, boolean want) {
         due(what, got ? 1 : 0, want ? 1 : 0);
     }
@@ -56,6 +64,18 @@ final class Check {
         due("agree() of \"" + text + "\"", agree(x, text), -2 - kind);
         due("place() of \"" + text + "\"", x.place(), place);
         due("the tape behind \"" + text + "\"", x.count(6), 0);
+    }
+
+    /** Puts a text behind what the tape has, and blanks to the next twenty bytes: as few calls as it can be. */
+    static void feedWithBlanks(ExtrasOffice x, String text) {
+        for (int at = 0; at < text.length(); at += 20) {
+            int[] numbers = new int[5];
+            for (int i = 0; i < 20; i++) {
+                int sign = at + i < text.length() ? text.charAt(at + i) : ' ';
+                numbers[i / 4] = numbers[i / 4] << 8 | sign;
+            }
+            x.feed(numbers[0], numbers[1], numbers[2], numbers[3], numbers[4]);
+        }
     }
 
     /** What seen() answers; -7 if it throws what is due of it for wrong numbers. */

@@ -50,7 +50,11 @@ final class FaceTest {
             int modifiers = inside.getModifiers();
             Check.due(inside + " is static", Modifier.isStatic(modifiers), true);
             Check.due(inside + " is open", Modifier.isPublic(modifiers) || Modifier.isProtected(modifiers), false);
-            hidden.addAll(Arrays.asList(inside.getDeclaredMethods()));
+            for (Method method : inside.getDeclaredMethods()) {
+                if (Modifier.isPrivate(method.getModifiers())) {
+                    hidden.add(method);
+                }
+            }
         }
         for (Method method : hidden) {
             Check.due(method + " bears a name of the face", names.contains(method.getName()), false);
@@ -69,8 +73,7 @@ final class FaceTest {
         for (Class<?> each : all) {
             for (Field field : each.getDeclaredFields()) {
                 int modifiers = field.getModifiers();
-                boolean isConstant = Modifier.isFinal(modifiers) && field.getType() == int.class;
-                Check.due(field + " is static state", Modifier.isStatic(modifiers) && !isConstant, false);
+                Check.due(field + " is static state", Modifier.isStatic(modifiers) && !Modifier.isFinal(modifiers), false);
             }
         }
     }
@@ -78,14 +81,12 @@ final class FaceTest {
     private static void text() throws Exception {
         String text = Files.readString(Path.of("src/main/java/ExtrasOffice.java"));
         for (String line : text.split("\n")) {
-            boolean isKnown = line.equals("import java.util.ArrayList;")
-                    || line.equals("import java.util.NoSuchElementException;");
+            boolean isKnown = line.matches("import java.util.(ArrayList|Arrays|Iterator|List|NoSuchElementException);");
             Check.due(line, line.startsWith("import ") && !isKnown, false);
         }
         String code = text.replaceAll("(?s)/\\*.*?\\*/", "").replaceAll("//[^\n]*", "");
-        String[] banned = {"->", "::", "\\btry\\b", "\\bcatch\\b", "\\bfinally\\b", "\\bassert\\b", "\\bsynchronized\\b",
-            "\\bpackage\\b", "Exact\\b", "\\bSystem\\b", "\\bfloat\\b", "\\bdouble\\b", "\\binstanceof\\b", "\\.equals\\(",
-            "MAX_VALUE", "MIN_VALUE"};
+        String[] banned = {"::", "\\bfinally\\b", "\\bassert\\b", "\\bsynchronized\\b", "\\bpackage\\b", "Exact\\b",
+            "(NullPointer|ArrayIndexOutOfBounds|ClassCast|NegativeArraySize|ArrayStore)Exception", "Throwable", "\\bthrows Exception"};
         for (String each : banned) {
             Check.due(each + " stands in the class", code.matches("(?s).*" + each + ".*"), false);
         }
