@@ -147,7 +147,7 @@ final class EdgeAsks {
         Check.due("( of many", holds("(look 1)or".repeat(95) + "(look 0)"), 1);
         ExtrasOffice x = Office.of(1);
         String full = HEAD + "look 1 or ".repeat(96) + "anyone;";
-        for (int n = 0; n < 4; n++) {
+        for (int n = 0; n < 8; n++) {
             Check.due("one long text behind another", Check.asks(x, full), 1);
             Check.due("fits(0, 0, 0)", x.fits(0, 0, 0), 1);
         }
@@ -442,6 +442,11 @@ final class EdgeAsks {
         Check.asks(x, "scene 20");
         Check.agree(x, "base x");
         Check.due("not of an agree() that was -2", x.place(), 6);
+        x.person(30, 170, 0, 0, 5);
+        x.lay();
+        x.end(0);
+        x.feed(0, 0, 0, 0, 0);
+        Check.due("no other call changes it", x.place(), 6);
         x.asks();
         Check.due("of the asks() behind it", x.place(), 0);
         x.end(0);
@@ -461,6 +466,15 @@ final class EdgeAsks {
         Check.due("ahead of the next asks()", x.place(), 5);
         x.asks();
         Check.due("without a FAULT", x.place(), -1);
+        x.person(30, 170, 0, 0, 5);
+        Check.asks(x, "scene 20");
+        x.lay();
+        x.no(0);
+        x.lay();
+        x.away(0, false);
+        x.lay();
+        x.step(1, 0);
+        Check.due("a DAY later", x.place(), 6);
     }
 
     private static void fitsAndCan() {

@@ -199,6 +199,11 @@ final class EdgeFacts {
         Check.due("those who LACK stay", x.lacks(0), 0);
         x.away(0, false);
         Check.due("those who LACKED then", x.lacks(0), 0);
+        Check.asks(x, "scene 5 at 0 for 1 want 1: anyone;");
+        x.lay();
+        x.tell(1, 2);
+        x.step(1, 0);
+        Check.due("those who LACKED then, a DAY later", x.lacks(2), 39);
         Check.due("a lesser retake", x.retake(3, 0), 1);
         Check.due("lacks(0)", x.lacks(0), 7);
         Check.due("it leaves nothing of the longer one", x.lacks(1), -1);
