@@ -23,13 +23,13 @@ public final class ExtrasOffice {
     private static final int QUARTER_MINUTES = 15;
     private static final int FULL = -2;
 
-    private final ArrayList<Person> people = new ArrayList<>();
-    private final Row tape = new Row(MOST_BYTES);
-    private final Tokens tokens = new Tokens(tape);
-    private final AskReader askReader = new AskReader(tokens);
+    private final Plan plan = new Plan();
+    private final ArrayList<Person> people = plan.people;
+    private final AskReader askReader = new AskReader();
+    private final Tokens tokens = askReader.tokens;
+    private final Row tape = tokens.tape;
     private final ArrayList<Agreement> agreements = new ArrayList<>();
     private final Facts facts = new Facts();
-    private final Plan plan = new Plan(people);
     private final Dressing dressing = new Dressing();
     private final ArrayList<Turn> records = new ArrayList<>();
     private final Row lacking = new Row(MOST_PEOPLE);
@@ -467,7 +467,7 @@ public final class ExtrasOffice {
         }
     }
 
-    /** Reads the tape token by token, and keeps the fault at which a reader stopped. */
+    /** Reads its tape token by token, and keeps the fault at which a reader stopped. */
     private static final class Tokens {
         static final int UNFIT = 1;
         static final int BEYOND = 2;
@@ -480,17 +480,13 @@ public final class ExtrasOffice {
         private static final int NUMBER = 3;
         private static final int SIGN = 4;
 
+        final Row tape = new Row(MOST_BYTES);
         int fault;
         int faultPlace = NONE;
-        private final Row tape;
         private int kind;
         private int start;
         private int next;
         private int value;
-
-        Tokens(Row tape) {
-            this.tape = tape;
-        }
 
         void begin() {
             fault = 0;
@@ -592,12 +588,8 @@ public final class ExtrasOffice {
 
     /** Reads asks; each of its methods that read a part answers false when it has met a fault. */
     private static final class AskReader {
-        private final Tokens tokens;
+        final Tokens tokens = new Tokens();
         private final Row steps = new Row(MOST_BYTES);
-
-        AskReader(Tokens tokens) {
-            this.tokens = tokens;
-        }
 
         /** Null with a fault. */
         ArrayList<Ask> read() {
@@ -724,17 +716,13 @@ public final class ExtrasOffice {
         }
     }
 
-    /** The day's asks and who is called in them. */
+    /** The people, the day's asks, and who is called in them. */
     private static final class Plan {
+        final ArrayList<Person> people = new ArrayList<>();
         ArrayList<Ask> asks = new ArrayList<>();
         final Row moves = new Row(MOST_ASKS);
-        private final ArrayList<Person> people;
         /** A bit for each ask from which the search for room went on already. */
         private int tried;
-
-        Plan(ArrayList<Person> people) {
-            this.people = people;
-        }
 
         Ask find(int a) {
             return a >= 0 && a < asks.size() ? asks.get(a) : null;

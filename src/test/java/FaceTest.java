@@ -85,6 +85,11 @@ final class FaceTest {
             Check.due(line, line.startsWith("import ") && !isKnown, false);
         }
         String code = text.replaceAll("(?s)/\\*.*?\\*/", "").replaceAll("//[^\n]*", "");
+        for (String line : code.split("\n")) {
+            // rule 12: while an object is made, nothing of it is handed to another one's constructor
+            boolean isField = line.matches("    (    )?(private |final )+\\S+ \\w+ = new .*");
+            Check.due(line, isField && !line.matches(".* = new \\w+(<>\\(\\)|\\([A-Z_0-9+* ]*\\)|\\[[A-Z_0-9]+\\]);"), false);
+        }
         String[] banned = {"::", "\\bfinally\\b", "\\bassert\\b", "\\bsynchronized\\b", "\\bpackage\\b", "Exact\\b",
             "(NullPointer|ArrayIndexOutOfBounds|ClassCast|NegativeArraySize|ArrayStore)Exception", "Throwable", "\\bthrows Exception"};
         for (String each : banned) {

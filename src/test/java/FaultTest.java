@@ -22,23 +22,35 @@ final class FaultTest {
         Random random = new Random(11);
         for (int n = 0; n < 6000; n++) {
             String text = broken(random, asks(random));
-            FaultTest reader = new FaultTest(text);
-            reader.readAsks();
+            int[] fault = ofAsks(text);
             ExtrasOffice x = new ExtrasOffice();
             int got = Check.asks(x, text);
-            Check.due("asks of \"" + text + "\"", Math.min(got, 0), reader.fault == 0 ? 0 : -2 - reader.fault);
-            Check.due("place of \"" + text + "\"", x.place(), reader.place);
+            Check.due("asks of \"" + text + "\"", Math.min(got, 0), fault[0] == 0 ? 0 : -2 - fault[0]);
+            Check.due("place of \"" + text + "\"", x.place(), fault[1]);
         }
         for (int n = 0; n < 3000; n++) {
             String text = broken(random, terms(random));
-            FaultTest reader = new FaultTest(text);
-            reader.readTerms();
+            int[] fault = ofAgreement(text);
             ExtrasOffice x = new ExtrasOffice();
             int got = Check.agree(x, text);
-            Check.due("agree of \"" + text + "\"", Math.min(got, 0), reader.fault == 0 ? 0 : -2 - reader.fault);
-            Check.due("place of \"" + text + "\"", x.place(), reader.place);
+            Check.due("agree of \"" + text + "\"", Math.min(got, 0), fault[0] == 0 ? 0 : -2 - fault[0]);
+            Check.due("place of \"" + text + "\"", x.place(), fault[1]);
         }
         Check.finish("FaultTest");
+    }
+
+    /** Kind (0 without) and place of the FAULT of a text as ASKS. */
+    static int[] ofAsks(String text) {
+        FaultTest reader = new FaultTest(text);
+        reader.readAsks();
+        return new int[] {reader.fault, reader.place};
+    }
+
+    /** Likewise as an AGREEMENT. */
+    static int[] ofAgreement(String text) {
+        FaultTest reader = new FaultTest(text);
+        reader.readTerms();
+        return new int[] {reader.fault, reader.place};
     }
 
     private FaultTest(String text) {
